@@ -166,6 +166,8 @@ public final class WatchedTest {
         Check.due("n 61", x.drawn(61, 1, 0), Check.BAD);
         Check.due("seed 0", x.drawn(1, 0, 0), Check.BAD);
         Check.due("seed 1000000", x.drawn(1, 1000000, 0), Check.BAD);
+        // 999999 times 16807 leaves 1774597664: a drawing of 15.
+        Check.due("seed 999999", x.drawn(1, 999999, 1), 15);
         Check.due("what 2", x.drawn(1, 1, 2), Check.BAD);
         Check.due("what -1", x.drawn(1, 1, -1), Check.BAD);
     }

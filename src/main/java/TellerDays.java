@@ -815,7 +815,7 @@ public final class TellerDays {
         }
 
         boolean isOpen(int teller) {
-            return hasTeller(teller) && (open >> teller & 1) == 1;
+            return teller >= 0 && teller < TELLERS && (open >> teller & 1) == 1;
         }
 
         void addTeller(int newKind, int newDays, int newCare) {
@@ -836,11 +836,11 @@ public final class TellerDays {
         }
 
         int sumOf(int paper) {
-            return knowsPaper(paper) ? sum[paper] : 0;
+            return paper >= 0 && paper < PAPERS ? sum[paper] : 0;
         }
 
         boolean isDrawing(int paper) {
-            return knowsPaper(paper) && (drawings >> paper & 1) == 1;
+            return paper >= 0 && paper < PAPERS && (drawings >> paper & 1) == 1;
         }
 
         int paperAt(int place) {
@@ -903,7 +903,7 @@ public final class TellerDays {
         }
 
         int costTo(int teller, int drawing) {
-            if (!hasTeller(teller)) {
+            if (teller < 0 || teller >= TELLERS) {
                 return 0;
             }
             int careful = drawing - care[teller] > 1 ? drawing - care[teller] : 1;

@@ -5,14 +5,27 @@ final class Check {
     static final int[] EXTREMES = {Integer.MIN_VALUE, -1000000, -1, 1000000, Integer.MAX_VALUE};
 
     private static int wrong = 0;
+    private static int made = 0;
+    private static String about = "";
 
     private Check() {
     }
 
+    /** What the checks that follow look at: it is told ahead of each wrong answer. */
+    static void about(String what) {
+        about = what.isEmpty() ? "" : "[" + what + "] ";
+    }
+
+    /** How many checks there were. */
+    static int made() {
+        return made;
+    }
+
     static void due(String call, long got, long want) {
+        made++;
         if (got != want) {
             wrong++;
-            System.out.println(call + " answered " + got + ", due is " + want);
+            System.out.println(about + call + " answered " + got + ", due is " + want);
         }
     }
 

@@ -24,6 +24,7 @@ final class TermsForetold {
 
     private static void orders() {
         Edge.of(0, "ORDER: of all orders of THE QUEUE that by which most of it is PAID", TermsForetold::mostPaid);
+        Edge.of(0, "ORDER: of all orders of THE QUEUE", TermsForetold::foundAnew);
         Edge.of(0, "of several that by which all TELLERS together have most LEFT then", TermsForetold::mostLeft);
         Edge.of(0, "of several the first (by numbers): how many; how much; the k-th PAPER.", TermsForetold::firstByNumbers);
     }
@@ -175,6 +176,39 @@ final class TermsForetold {
         order(Check.bankOf("b0,20;y10,1;d9;d5;d5;"), 2, 0, 1, 0, 2);
         // Of 19 the greatest two cannot be PAID both: 12 is UNPAID, so 7 are LEFT; it comes where 10 cannot pay it.
         order(Check.bankOf("b0,20;y10,1;d11;d12;d1;p9;"), 3, 7, 1, 2, 3, 0);
+        // TURNS are told: behind d8 the brown one has a day again, by which he pays d1.
+        order(Check.bankOf("b0,1;n7,1;d8;p1;d1;"), 3, 1, 1, 0, 2);
+    }
+
+    /** What was found is found anew when the BANK is another, by whatever way. */
+    private static void foundAnew() {
+        TellerDays x = Check.bankOf("b0,20;y9,1;y8,1;d3;d4;d30;");
+        order(x, 2, 10, 0, 1, 2);
+        share(x, Check.NONE, Check.NONE, Check.NONE, Check.NONE);
+        x.image(0);
+        x.serve(3);
+        order(x, 0, 10);
+        share(x, 4);
+        x.undo();
+        order(x, 0, 10, 2);
+        share(x, Check.NONE, Check.NONE);
+        x.dismiss();
+        order(x, 0, 10);
+        x.come(1, 5);
+        order(x, 1, 5, 0);
+        share(x, 1, 0);
+        x.counter(0, 0);
+        order(x, 0, 10, 0);
+        x.come(0, 1);
+        x.swap();
+        order(x, 2, 6, 1, 0);
+        share(x, 2, 0, 0);
+        x.restore(0);
+        order(x, 2, 10, 0, 1, 2);
+        share(x, Check.NONE, Check.NONE, Check.NONE, Check.NONE);
+        Check.read(x, "b0,20;y5,1;d2;");
+        order(x, 1, 3, 0);
+        share(x, 3, 0);
     }
 
     private static void mostLeft() {
@@ -232,6 +266,8 @@ final class TermsForetold {
         share(Check.bankOf("b0,20;y20,1;y12,1;d5;"), 12, 0);
         // Paying-in to the poorest; the drawing by the richest.
         share(Check.bankOf("b0,20;y20,1;y12,1;p5;d4;"), 16, 1, 0);
+        // A way that looks poor until the paying-in comes: 12 and 26, then 21 and 26.
+        share(Check.bankOf("b0,20;y12,1;y30,1;d4;p9;"), 21, 1, 0);
         // The poorest of all counts, also one who serves nobody.
         share(Check.bankOf("b0,20;y20,1;y12,1;y3,1;d5;"), 3, 0);
     }

@@ -234,7 +234,11 @@ final class TermsOfTexts {
         Check.due("seven", x.count(2), 7);
         Check.due("the last", x.paper(6, 0), 7);
         fault(LAW + TELLER + "d1;d2;d3;d4;d5;d6;d7;d8;", 3, 31);
-        Check.due("none is fine", Check.bankOf(LAW + TELLER).count(2), 0);
+        TellerDays none = Check.bankOf(LAW + TELLER);
+        Check.due("none is fine", none.count(2), 0);
+        for (int p = 0; p < 7; p++) {
+            Check.due("paper(" + p + ", 0), never there", none.paper(p, 0), Check.BAD);
+        }
     }
 
     private static void inThisOrder() {
@@ -258,6 +262,21 @@ final class TermsOfTexts {
         Check.due("no second PAPER", x.paper(1, 0), Check.BAD);
         // INFANCY 0: the brisk one has 8 to give, so half of 15, and 1; his CARE is 3.
         Check.due("INFANCY", x.most(), 18);
+        tellersBeforeDoNotCount();
+    }
+
+    private static void tellersBeforeDoNotCount() {
+        TellerDays x = new TellerDays();
+        Check.read(x, "b0,1;n9,1;n9,1;n9,1;n9,1;d1;");
+        Check.read(x, "b0,20;y9,1;y8,1;");
+        Check.due("no third who has 9", x.twins(0), 0);
+        Check.due("no third who has 9", x.twins(1), Check.NONE);
+        Check.due("no third to whom 30 is 9", x.cheap(30, 0), 0);
+        Check.due("all have", x.order(-2), 17);
+        Check.due("all have", x.drawn(0, 1, 1), 17);
+        Check.due("the poorest has", x.share(-1), 8);
+        Check.due("no PAPER ever was there", x.paper(0, 0), Check.BAD);
+        Check.due("one who has none is not like nobody", Check.bankOf("b0,20;y0,1;y1,1;").twins(0), 0);
     }
 
     private static void newBank() {

@@ -95,6 +95,11 @@ public final class LanguageTest {
         while (library.find()) {
             Check.that(library.group(), Set.of("Math.min", "Math.max", "Integer.bitCount", "System.arraycopy").contains(library.group()));
         }
+        Check.that("no static block", !Pattern.compile("static\\s*\\{").matcher(code).find());
+        for (String line : code.split("\n")) {
+            boolean kept = line.trim().startsWith("private final ") || line.matches(" +(kept|levels)\\[k\\] = new Bank\\(\\);");
+            Check.that("made once, with the object: " + line, kept || !line.contains("new "));
+        }
         int length = 0;
         for (String line : source.split("\n")) {
             length = line.endsWith("{") && line.matches(" {4}(    )?\\S.*\\(.*") ? 0 : length + 1;

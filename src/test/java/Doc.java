@@ -2,7 +2,9 @@ import java.io.IOException;
 import java.nio.file.Files;
 import java.nio.file.Path;
 import java.util.Map;
+import java.util.Set;
 import java.util.TreeMap;
+import java.util.TreeSet;
 import java.util.regex.Matcher;
 import java.util.regex.Pattern;
 
@@ -10,6 +12,8 @@ import java.util.regex.Pattern;
 final class Doc {
     private static final Path PLACE = Path.of("../shared/DOC.md");
     private static final Pattern PROMISE = Pattern.compile("(?s)## Promise (\\d+):.*?\n`[^`]*`: (.*?)(?=\n## |\\z)");
+
+    private static final Pattern CALL = Pattern.compile("(?m)^    public (\\w+ \\w+)\\((.*)\\);$");
 
     private Doc() {
     }
@@ -27,6 +31,16 @@ final class Doc {
             parts.put(Integer.parseInt(promise.group(1)), plain(promise.group(2)));
         }
         return parts;
+    }
+
+    /** The face as the document has it: "int row(int, int, int)" .. ; empty, if there is no document here. */
+    static Set<String> face() {
+        Set<String> face = new TreeSet<>();
+        Matcher call = CALL.matcher(Files.isReadable(PLACE) ? words() : "");
+        while (call.find()) {
+            face.add(call.group(1) + "(" + call.group(2).replaceAll("(\\w+) \\w+", "$1") + ")");
+        }
+        return face;
     }
 
     private static String words() {

@@ -10,6 +10,7 @@ import java.util.Set;
 import java.util.TreeSet;
 import java.util.regex.Matcher;
 import java.util.regex.Pattern;
+import java.util.stream.Collectors;
 
 /** The face of the document, and those rules of LANGUAGE.md that can be seen by a program. */
 public final class LanguageTest {
@@ -19,6 +20,7 @@ public final class LanguageTest {
 
     public static void main(String[] args) throws IOException {
         face();
+        faceOfTheDocument();
         constants();
         members();
         words();
@@ -48,6 +50,16 @@ public final class LanguageTest {
                 Check.that(m + " takes seven at most", m.getParameterCount() <= 7);
             }
         }
+    }
+
+    private static void faceOfTheDocument() {
+        Set<String> due = Doc.face();
+        Set<String> there = new TreeSet<>();
+        for (Method m : Pair.face()) {
+            String types = Arrays.stream(m.getParameterTypes()).map(Class::getName).collect(Collectors.joining(", "));
+            there.add(m.getReturnType().getName() + " " + m.getName() + "(" + types + ")");
+        }
+        Check.that("the document's face is " + due + ", not " + there, due.isEmpty() || due.equals(there));
     }
 
     private static void constants() {

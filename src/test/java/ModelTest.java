@@ -1,8 +1,5 @@
-import java.lang.reflect.InvocationTargetException;
 import java.lang.reflect.Method;
 import java.util.ArrayList;
-import java.util.Arrays;
-import java.util.Comparator;
 import java.util.List;
 import java.util.Map;
 import java.util.Random;
@@ -33,19 +30,13 @@ public final class ModelTest {
         Map.entry("count", new int[] {0, 7}), Map.entry("feed", new int[] {0, 255}));
 
     private final Random random;
-    private final TellerDays x = new TellerDays();
-    private final Model model = new Model();
-    private final List<String> told = new ArrayList<>();
+    private final Pair pair = new Pair();
     private final List<Method> calls = new ArrayList<>();
 
     private ModelTest(long seed) {
         random = new Random(seed);
-        Method[] all = TellerDays.class.getDeclaredMethods();
-        // Reflection gives no order, and the runs must be the same each time.
-        Arrays.sort(all, Comparator.comparing(Method::getName));
-        for (Method m : all) {
-            boolean face = java.lang.reflect.Modifier.isPublic(m.getModifiers());
-            for (int k = face ? WEIGHTS.getOrDefault(m.getName(), 2) : 0; k > 0; k--) {
+        for (Method m : Pair.face()) {
+            for (int k = WEIGHTS.getOrDefault(m.getName(), 2); k > 0; k--) {
                 calls.add(m);
             }
         }
@@ -61,15 +52,15 @@ public final class ModelTest {
     }
 
     private void run() throws ReflectiveOperationException {
-        for (int k = 0; k < 400 && told.size() < 512; k++) {
+        for (int k = 0; k < 400 && pair.age() < 512; k++) {
             int choice = random.nextInt(60);
             if (choice == 0 || k == 5) {
-                if (!readText(random.nextInt(3) == 0 ? spoilt(text()) : text())) return;
+                if (!pair.read(random.nextInt(3) == 0 ? spoilt(text()) : text())) return;
             } else if (choice < 5) {
                 if (!tellTheTruth()) return;
             } else {
                 Method m = calls.get(random.nextInt(calls.size()));
-                if (!same(m.getName(), arguments(m))) return;
+                if (!pair.same(m.getName(), arguments(m))) return;
             }
         }
     }
@@ -87,16 +78,16 @@ public final class ModelTest {
 
     /** A ROW becomes what a TELLER really will have LEFT, so that something fits it. */
     private boolean tellTheTruth() throws ReflectiveOperationException {
-        int tellers = model.count(1);
+        int tellers = pair.model.count(1);
         if (tellers == 0) return true;
         int row = random.nextInt(3), t = random.nextInt(tellers), n = 1 + random.nextInt(12);
-        if (!same("row", row, random.nextInt(3), n)) return false;
+        if (!pair.same("row", row, random.nextInt(3), n)) return false;
         for (int i = 0; i < n; i++) {
-            if (!same("set", row, i, model.ahead(t, i + 1))) return false;
+            if (!pair.same("set", row, i, pair.model.ahead(t, i + 1))) return false;
         }
         int less = 1 + random.nextInt(n);
-        return same("who", random.nextInt(tellers), 0, t, row, 0, less) && same("who", random.nextInt(tellers), 1, t, row, 0, less)
-            && same("sums", t, row, 0, less) && same("stayed", t, row, 0, less);
+        return pair.same("who", random.nextInt(tellers), 0, t, row, 0, less) && pair.same("who", random.nextInt(tellers), 1, t, row, 0, less)
+            && pair.same("sums", t, row, 0, less) && pair.same("stayed", t, row, 0, less);
     }
 
     private String text() {
@@ -127,33 +118,5 @@ public final class ModelTest {
             }
         }
         return s.toString();
-    }
-
-    private boolean readText(String text) throws ReflectiveOperationException {
-        for (char c : text.toCharArray()) {
-            if (!same("feed", (int) c)) return false;
-        }
-        return same("bank") && same("fault");
-    }
-
-    private boolean same(String name, Object... args) throws ReflectiveOperationException {
-        String call = name + Arrays.toString(args);
-        told.add(call);
-        Class<?>[] types = new Class<?>[args.length];
-        Arrays.fill(types, int.class);
-        long want = ((Number) Model.class.getDeclaredMethod(name, types).invoke(model, args)).longValue();
-        long got;
-        try {
-            got = ((Number) TellerDays.class.getDeclaredMethod(name, types).invoke(x, args)).longValue();
-        } catch (InvocationTargetException e) {
-            System.out.println(told + " threw " + e.getCause());
-            Check.that(call + " does not throw", false);
-            return false;
-        }
-        if (got != want) {
-            System.out.println("the run: " + told);
-        }
-        Check.due(call, got, want);
-        return got == want;
     }
 }
